@@ -40,6 +40,12 @@ public final class KitchensTest {
         due.is("FULL before a fault", Due.read(x, "?"), -4);
         due.is("the sixth holds", x.told(1), 50);
         due.is("six", x.count(1), 6);
+        QuinceEnd y = new QuinceEnd();
+        y.thing(0, 0, 1, 0);
+        due.is("a fault at the end", Due.read(y, "need 9;dark 7 p=0;dark 8 p=0&x"), -10 - 29);
+        due.is("what was read of it holds not", y.told(1) + y.of(0, 6), 61);
+        due.is("the next", Due.read(y, "dark 2 p=0"), 0);
+        due.is("nor is it left in the next", y.told(1) + y.of(0, 6), 63);
     }
 
     private static void fault(String text, int place) {
@@ -67,6 +73,9 @@ public final class KitchensTest {
         fault("dark 1 p!1", 8);
         fault("dark 1 p=", 9);
         fault("dark 1 p=x", 9);
+        fault("dark 1 p=:", 9);
+        fault("dark 1 p=/", 9);
+        fault("dark 1 p=1:", 10);
         fault("dark 1 p=123", 11);
         fault("dark 1 p=1&", 11);
         fault("dark 1 p=1|", 11);
@@ -83,6 +92,7 @@ public final class KitchensTest {
         fault(";need 1", 0);
         fault("need 1;;need 1", 7);
         fault("need", 4);
+        fault("dark 0 p=1;dark 00 p=00;x", 24);
         fault("need 1 p=1", 6);
         fault("need 123", 7);
         fault("need 1\n", 6);
@@ -220,5 +230,18 @@ public final class KitchensTest {
         z.put(3);
         z.put(4);
         due.is("the first of several", z.told(8), 3);
+        QuinceEnd a = new QuinceEnd();
+        a.thing(3, 0, 2, 1);
+        a.thing(0, 0, 0, 0);
+        a.thing(0, 0, 0, 1);
+        a.put(0);
+        a.thing(0, 0, 1, 0);
+        a.put(3);
+        due.is("said of the same one", a.told(8), 0);
+        a.weigh(0, 0);
+        Due.read(a, "dark 2 p=0;clear 1 p=3;need 1");
+        due.is("the first by which it is not by then", a.told(8), 0);
+        a.say(1);
+        due.is("said of the other one", a.told(9), 2);
     }
 }

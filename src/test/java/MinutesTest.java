@@ -138,6 +138,7 @@ public final class MinutesTest {
         x.thing(0, 0, 5, 0);
         x.thing(0, 0, 5, 0);
         x.thing(0, 0, 5, 0);
+        due.is("the first of three", x.best(1, 0), 0);
         due.is("the first row", x.best(3, 0) * 100 + x.best(3, 1) * 10 + x.best(3, 2), 12);
         Due.read(x, "clear 20 m=0;dark 1 p=2");
         due.is("none gives at first", x.best(2, -1), 11);
@@ -168,6 +169,12 @@ public final class MinutesTest {
         due.is("it changes nothing", x.told(5) + x.told(3), 2);
         QuinceEnd y = new QuinceEnd();
         due.is("of nothing", y.enough(1), -5);
+        for (int i = 0; i < 6; i++) {
+            y.thing(0, 0, 10, 0);
+        }
+        due.is("all six", y.enough(1), 63);
+        y.weigh(2, 20);
+        due.is("five, the least as bits", y.enough(1), 31);
     }
 
     private static void promise17Flame() {
@@ -264,9 +271,12 @@ public final class MinutesTest {
         x.put(0);
         due.is("one in: 5, 10, 15 of four", x.odds(3, 0), 1);
         due.is("sure", x.odds(3, 1), 1);
-        for (int i : new int[] {1, 2, 4, 5}) {
+        for (int i : new int[] {1, 2, 4}) {
             x.put(i);
         }
+        due.is("one unsaid: above", x.odds(3, 0), 1);
+        due.is("one unsaid: below", x.odds(3, 1), 1);
+        x.put(5);
         due.is("none unsaid", x.odds(3, 0), NO);
     }
 
@@ -278,6 +288,8 @@ public final class MinutesTest {
         x.thing(0, 0, 3, 0);
         due.is("none is in", x.mean(1), NO);
         x.put(0);
+        due.is("4 by 1: above", x.mean(0), 4);
+        due.is("4 by 1: below", x.mean(1), 1);
         x.put(1);
         due.is("6 by 2: above", x.mean(0), 3);
         due.is("6 by 2: below", x.mean(1), 1);

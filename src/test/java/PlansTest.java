@@ -24,13 +24,14 @@ public final class PlansTest {
         due.is("plan(1, 0)", x.plan(1, 0), 2);
         due.is("plan(2, 0)", x.plan(2, 0), 3);
         due.is("plan(3, 9)", x.plan(3, 9), 4);
+        due.is("plan(3, 0)", x.plan(3, 0), 5);
         due.is("plan(4, 0)", x.plan(4, 0), -1);
         due.is("plan(-2, 0)", x.plan(-2, 0), -1);
         due.is("plan(1, 1)", x.plan(1, 1), -1);
         due.is("plan(2, -1)", x.plan(2, -1), -1);
         due.is("plan(3, 10)", x.plan(3, 10), -2);
         due.is("plan(3, -1)", x.plan(3, -1), -2);
-        for (int n = 5; n <= 10; n++) {
+        for (int n = 6; n <= 10; n++) {
             due.is("row " + n, x.plan(0, -1), n);
         }
         due.is("an eleventh", x.plan(0, 0), -4);
@@ -156,6 +157,7 @@ public final class PlansTest {
         due.is("judge(-1, 0)", x.judge(-1, 0), -1);
         x.tape(0, 3, 0);
         due.is("an empty row", x.judge(0, 0), 100);
+        due.is("the last tape", x.judge(5, 0), 100);
     }
 
     private static void promise27Image() {
@@ -182,9 +184,11 @@ public final class PlansTest {
         x.put(0);
         x.fire(3);
         x.pass(5);
-        x.see(1, 1);
+        x.see(1, 63);
         x.plan(3, 2);
-        x.book(0, 3);
+        x.plan(0, 0);
+        x.book(0, 2);
+        x.book(1, 3);
         x.image();
         int[] told = tellAll(x);
         changeAll(x);
@@ -223,7 +227,14 @@ public final class PlansTest {
         x.fire(9);
         x.see(2, 2);
         x.plan(-1, 0);
-        x.book(1, 1);
+        x.plan(1, 1);
+        x.plan(0, 0);
+        x.plan(2, 0);
+        x.book(-1, 0);
+        x.book(1, 3);
+        x.book(0, 2);
+        x.see(-1, 0);
+        x.see(12, 50);
         Due.read(x, "need 50");
         x.tape(0, 0, 1);
         x.item(0, 0, 9);
@@ -234,7 +245,8 @@ public final class PlansTest {
 
     private static int[] tellAll(QuinceEnd x) {
         return new int[] {x.count(0), x.count(2), x.count(3), x.count(4), x.told(0), x.told(1), x.told(2), x.told(3),
-            x.told(4), x.told(5), x.told(6), x.of(0, 2), x.of(0, 4), x.of(0, 5), x.of(1, 6), x.looked(), x.ends(0)};
+            x.told(4), x.told(5), x.told(6), x.told(8), x.of(0, 2), x.of(0, 4), x.of(0, 5), x.of(0, 7), x.of(1, 6),
+            x.can(0, 0), x.looked(), x.ends(0), x.ends(1)};
     }
 
     private static void promise29Act() {

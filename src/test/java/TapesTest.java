@@ -28,8 +28,12 @@ public final class TapesTest {
         due.is("it stays", x.item(0, 59, 7), 1);
         due.is("nothing, n does not matter", x.tape(0, -1, -9), 1);
         due.is("nothing is there", x.read(0, 59), NO);
+        due.is("not even at 0", x.read(0, 0), NO);
         x.tape(0, 0, 60);
         due.is("all 0 again", x.read(0, 59), 0);
+        x.item(0, 0, 7);
+        x.tape(0, 3, 1);
+        due.is("all 0 of another sort", x.read(0, 0), 0);
         due.is("NONE before nothing", x.tape(6, -1, 0), -1);
     }
 
@@ -72,6 +76,9 @@ public final class TapesTest {
         due.is("read(0, 3)", x.read(0, 3), NO);
         due.is("read(0, -1)", x.read(0, -1), NO);
         due.is("read(1, 0)", x.read(1, 0), NO);
+        x.tape(5, 4, 1);
+        x.item(5, 0, 2);
+        due.is("read(5, 0)", x.read(5, 0), 1);
         due.is("read(6, 0)", x.read(6, 0), NO);
         due.is("read(-1, 0)", x.read(-1, 0), NO);
     }
@@ -108,6 +115,13 @@ public final class TapesTest {
         due.is("i -1", x.shift(0, -1, 1, 0, 1), -13);
         due.is("j -1", x.shift(0, 0, 1, -1, 1), -13);
         due.is("far", x.shift(0, Integer.MAX_VALUE, 1, 0, Integer.MAX_VALUE), -13);
+        x.tape(5, 0, 60);
+        x.tape(4, 0, 60);
+        x.item(5, 59, 8);
+        due.is("whole rows of 60", x.shift(5, 0, 4, 0, 60), 60);
+        due.is("their last", x.read(4, 59), 8);
+        due.is("to the last tape", x.shift(4, 59, 5, 0, 1), 1);
+        due.is("its first", x.read(5, 0), 8);
         due.is("other sorts", x.shift(0, 0, 2, 0, 1), -12);
         due.is("nothing there", x.shift(0, 0, 3, 0, 1), -11);
         due.is("nothing here", x.shift(3, 0, 0, 0, 1), -11);

@@ -126,6 +126,8 @@ public final class ThingsTest {
         y.thing(3, 4, 7, 0);
         y.say(0);
         due.is("a name itself said is no other", y.of(0, 6), 7);
+        y.thing(3, 4, 7, 0);
+        due.is("the first said, a name behind it", y.of(1, 6), 0);
     }
 
     private static void givesOfWorries() {
