@@ -1096,31 +1096,24 @@ public final class QuinceEnd {
 
         /** An E; within tells in how many ( and ! it stands. */
         private boolean expression(int within) {
-            for (int terms = 0; terms < MOST_SIGNS; terms++) {
-                if (!term(within)) {
-                    return false;
-                }
-                if (terms > 0) {
-                    kitchen.addStep(Kitchen.OR, 0, 0);
-                }
-                if (!take('|')) {
-                    return true;
-                }
-            }
-            return false;
-        }
-
-        /** A T. */
-        private boolean term(int within) {
+            boolean behindAnd = false;
+            boolean behindOr = false;
             for (int factors = 0; factors < MOST_SIGNS; factors++) {
                 if (!factor(within)) {
                     return false;
                 }
-                if (factors > 0) {
+                if (behindAnd) {
                     kitchen.addStep(Kitchen.AND, 0, 0);
                 }
-                if (!take('&')) {
-                    return true;
+                behindAnd = take('&');
+                if (!behindAnd) {
+                    if (behindOr) {
+                        kitchen.addStep(Kitchen.OR, 0, 0);
+                    }
+                    behindOr = take('|');
+                    if (!behindOr) {
+                        return true;
+                    }
                 }
             }
             return false;
