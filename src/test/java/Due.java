@@ -9,6 +9,13 @@ final class Due {
         }
     }
 
+    void same(String where, String got, String want) {
+        if (!got.equals(want)) {
+            wrong++;
+            System.out.println(where + ": " + got + ", due is " + want);
+        }
+    }
+
     /** Feeds a whole text and reads it. */
     static int read(QuinceEnd x, String text) {
         for (int i = 0; i < text.length(); i++) {
