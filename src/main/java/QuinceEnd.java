@@ -47,7 +47,7 @@ public final class QuinceEnd {
         now = new Whole(bare);
         kept = new Whole(bare);
         asking = new Asking(now, bare);
-        text = new Reading();
+        text = new Reading(bare);
         kitchens = new Kitchen[KITCHENS];
         for (int i = 0; i < KITCHENS; i++) {
             kitchens[i] = new Kitchen();
@@ -1033,6 +1033,11 @@ public final class QuinceEnd {
         int length;
         private int place;
         private Kitchen kitchen;
+
+        /** The bare kitchen stands here till a text is read, so that there always is one. */
+        Reading(Kitchen bare) {
+            kitchen = bare;
+        }
 
         int addSign(int sign) {
             if (length < 0 || length >= MOST_SIGNS) {

@@ -33,6 +33,15 @@ public final class FaceTest {
                 open.add(m.getReturnType() + " " + m.getName() + "(" + types + ")");
             }
         }
+        for (Class<?> inside : QuinceEnd.class.getDeclaredClasses()) {
+            due.is(inside + " is static", Modifier.isStatic(inside.getModifiers()) ? 1 : 0, 1);
+            due.is(inside + " can be seen", inside.getModifiers() & (Modifier.PUBLIC | Modifier.PROTECTED), 0);
+            for (Method m : inside.getDeclaredMethods()) {
+                if (Modifier.isPrivate(m.getModifiers())) {
+                    hidden.add(m.getName());
+                }
+            }
+        }
         Set<String> expected = new TreeSet<>(Arrays.asList(METHODS));
         due.is("methods of the face " + open, open.equals(expected) ? 1 : 0, 1);
         for (String method : METHODS) {
